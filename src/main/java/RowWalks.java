@@ -250,7 +250,8 @@ public final class RowWalks {
     }
 
     public int narrow(int t) {
-        if (!isLength(t)) {
+        // where no plan leads there is no need to look at ever wider strips
+        if (!isLength(t) || countPlans(t, 1) == 0) {
             return NONE;
         }
         for (int w = 0; w <= MAX_STRIP; w++) {
@@ -1035,10 +1036,10 @@ public final class RowWalks {
         int side1 = 1;
         int side2 = 1;
         int room;
-        long[] ways;
-        int[] most;
-        int[] list;
-        long[] choices;
+        long[] ways = new long[0];
+        int[] most = new int[0];
+        int[] list = new int[0];
+        long[] choices = new long[0];
         int keptT = NONE;
         int keptW = NONE;
         int keptStamp;
@@ -1134,18 +1135,36 @@ public final class RowWalks {
             int next = 0;
             for (int i = 0; i < size; i++) {
                 int cell = list[from + i];
-                int third = cell % side2 + low[base + 2];
-                int second = cell / side2 % side1 + low[base + 1];
-                int first = cell / side2 / side1 + low[base];
-                for (int column = 0; column < columns.count; column++) {
-                    at[0] = first + columns.numberOf(column, 0);
-                    at[1] = second + columns.numberOf(column, 1);
-                    at[2] = third + columns.numberOf(column, 2);
-                    int to = cellOf(k + 1);
-                    if (to >= 0 && reach(k + 1, to, from + cell, column)) {
-                        list[layer(k + 1) * room + next] = to;
-                        next++;
-                    }
+                at[2] = cell % side2 + low[base + 2];
+                at[1] = cell / side2 % side1 + low[base + 1];
+                at[0] = cell / side2 / side1 + low[base];
+                next = leave(from + cell, k + 1, next);
+            }
+            return next;
+        }
+
+        /** Every column from the sum that stands in 'at', told apart here as cellOf does: this is the dearest loop. */
+        private int leave(int source, int k, int size) {
+            int base = k * MAX_ROWS;
+            int to = layer(k) * room;
+            int first = at[0] - low[base];
+            int second = at[1] - low[base + 1];
+            int third = at[2] - low[base + 2];
+            int width = high[base] - low[base];
+            int height = high[base + 1] - low[base + 1];
+            int depth = high[base + 2] - low[base + 2];
+            int next = size;
+            for (int column = 0; column < columns.count; column++) {
+                int a = first + columns.numberOf(column, 0);
+                int b = second + columns.numberOf(column, 1);
+                int c = third + columns.numberOf(column, 2);
+                if (a < 0 || a > width || b < 0 || b > height || c < 0 || c > depth) {
+                    continue;
+                }
+                int cell = (a * side1 + b) * side2 + c;
+                if (reach(k, cell, source, column)) {
+                    list[to + next] = cell;
+                    next++;
                 }
             }
             return next;

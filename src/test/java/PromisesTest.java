@@ -108,6 +108,7 @@ public final class PromisesTest {
         due("steps", x.about(2), 8);
         fine("need 3;column rowsx 1 gain 2;steps 1;", 1);
         fine("column\na-5 gain-99;column b5 gain 99;need-20;steps012;", 2);
+        fine("column az 1 gain 1;column za 1 gain 1;", 2);
         fine("rows 001;column abcdefgh -0 gain 000;need 020;", 1);
     }
 
@@ -129,6 +130,9 @@ public final class PromisesTest {
         fault(" \t", 1, 1);
         fault("columns a 1 gain 1;", 2, 0);
         fault("column gain 1 gain 1;", 2, 7);
+        fault("column rows 1 gain 1;", 2, 7);
+        fault("column column 1 gain 1;", 2, 7);
+        fault("column need 1 gain 1;", 2, 7);
         fault("column steps 1 gain 1;", 2, 7);
         fault("column 1 1 gain 1;", 2, 7);
         fault("column a gain 1;", 2, 9);
@@ -398,7 +402,10 @@ public final class PromisesTest {
         due("narrow(4)", x.narrow(4), NONE);
         due("narrow(0)", x.narrow(0), NONE);
         due("narrow(13)", x.narrow(13), NONE);
+        due("narrow(15), by which a plan leads", x.narrow(15), NONE);
         due("narrow(-1)", x.narrow(-1), NONE);
+        due("narrow(8) of wide columns", Told.of("rows 3;column a -5 -5 5 gain 1;column b 5 -4 -5 gain 1;"
+            + "column c 5 5 5 gain 1;column d -5 5 -5 gain 1;need 0 2 0;").narrow(8), 10);
         due("narrow(0) of no need", new RowWalks().narrow(0), 0);
         promise = 25;
         due("fewest()", x.fewest(), 3);
@@ -433,6 +440,7 @@ public final class PromisesTest {
         due("plans(4)", x.plans(4), 0);
         due("plans(12)", x.plans(12), 0);
         due("plans(13)", x.plans(13), NONE);
+        due("plans(15) of a sum that they have", Told.of(LINE).plans(15), NONE);
         due("plans(-1)", x.plans(-1), NONE);
         due("plans(0) of no need", new RowWalks().plans(0), 1);
         promise = 29;
@@ -536,6 +544,7 @@ public final class PromisesTest {
         due("drawn(0, 3, 1)", x.drawn(0, 3, 1), 5);
         due("drawn(0, 3, 2)", x.drawn(0, 3, 2), 3);
         due("drawn(0, 0, 2)", x.drawn(0, 0, 2), 3);
+        due("drawn(9999, 1, 1): 8982", x.drawn(9999, 1, 1), 3);
         due("drawn(9999, 12, 3)", x.drawn(9999, 12, 3), STRANGE);
         due("drawn(10000, 1, 0)", x.drawn(10000, 1, 0), STRANGE);
         due("drawn(-1, 1, 0)", x.drawn(-1, 1, 0), STRANGE);
@@ -582,6 +591,10 @@ public final class PromisesTest {
         promise = 42;
         x.change(0, 0, 5);
         due("fits(10): as told by the text", x.fits(10), 1);
+        promise = 43;
+        RowWalks eight = Told.of("column a 0 gain 1;column b 0 gain 1;column c 0 gain 1;column d 0 gain 1;"
+            + "column e 0 gain 1;column f 0 gain 1;column g 0 gain 1;column h 1 gain 1;");
+        due("fit(1, 0) of the last of eight", eight.fit(1, 0), 7);
         promise = 40;
         x.later(10);
         due("untell(1)", x.untell(1), true);
