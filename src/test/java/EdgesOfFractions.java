@@ -76,9 +76,11 @@ final class EdgesOfFractions {
         Naive.State s = new Naive.State();
         s.rows = need.length;
         s.need = need;
-        for (int[] column : columns) {
-            s.columns.add(column);
-            s.gains.add(1);
+        // what they gain is near, too, but no column
+        int[] gains = {4, -1, 3, 2, 1, 0, 1, 2};
+        for (int i = 0; i < columns.length; i++) {
+            s.columns.add(columns[i]);
+            s.gains.add(gains[i]);
             s.held.add(0);
         }
         Naive y = new Naive();
@@ -91,6 +93,9 @@ final class EdgesOfFractions {
                     Due.is(call, x.doubled(l, w, what), y.doubled(l, w, what));
                 }
             }
+        }
+        for (int w = 0; w <= 3; w++) {
+            Due.is("doubled(3, " + w + ", 3)", x.doubled(3, w, 3), y.doubled(3, w, 3));
         }
     }
 

@@ -564,6 +564,14 @@ final class EdgesOfHands {
     }
 
     static void about() {
+        Due.sentence(47, "What 0: rows, 1: COLUMNS, 2: steps");
+        Due.is("rows, the fewest", Told.of("rows 1;steps 1;").about(0), 1);
+        Due.is("columns, the fewest", Told.of("rows 1;steps 1;").about(1), 0);
+        Due.is("steps, the fewest", Told.of("rows 1;steps 1;").about(2), 1);
+        Due.is("rows, the most", Told.of(FULL).about(0), 3);
+        Due.is("columns, the most", Told.of(FULL).about(1), 8);
+        Due.is("steps, the most", Told.of(FULL).about(2), 12);
+
         Due.sentence(47, "3: the greatest number of a COLUMN without sign (0)");
         Due.is("of no columns", new RowWalks().about(3), 0);
         Due.is("of 0 alone", Told.of("column a 0 gain 99;need 20;").about(3), 0);

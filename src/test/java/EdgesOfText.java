@@ -47,6 +47,21 @@ final class EdgesOfText {
         Due.is("untell(0)", x.untell(0), false);
         Due.is("back(0)", x.back(0), NONE);
         Due.is("back(1)", x.back(1), NONE);
+        // each as the first call of all
+        Due.is("optimum(0)", new RowWalks().optimum(0), 0);
+        Due.is("order(0)", new RowWalks().order(0), NONE);
+        Due.is("strays()", new RowWalks().strays(), 0);
+        Due.is("strip(0, 0, 0)", new RowWalks().strip(0, 0, 0), 1);
+        Due.is("walks(0, 0)", new RowWalks().walks(0, 0), 1);
+        Due.is("best(0, 0)", new RowWalks().best(0, 0), 0);
+        Due.is("narrow(0)", new RowWalks().narrow(0), 0);
+        Due.is("fewest()", new RowWalks().fewest(), 0);
+        Due.is("doubled(0, 0, 0)", new RowWalks().doubled(0, 0, 0), 1);
+        Due.is("relaxed(1)", new RowWalks().relaxed(1), 1);
+        Due.is("corners()", new RowWalks().corners(), 1);
+        Due.is("apart(1)", new RowWalks().apart(1), 1);
+        Due.is("exchange(3, 0)", new RowWalks().exchange(3, 0), STRANGE);
+        Due.is("fits(0)", new RowWalks().fits(0), 1);
         x.allow(3);
         Due.is("steps of another new object", new RowWalks().about(2), 8);
     }

@@ -1,3 +1,5 @@
+import java.util.List;
+
 /** The boundary cases of walks, strips, the best plan, draws; promises 20 to 31, 37, 38. */
 final class EdgesOfWalks {
     private static final int NONE = Due.NONE;
@@ -230,6 +232,33 @@ final class EdgesOfWalks {
             Due.is("step(12, 2, " + i + ") of eight columns", x.step(12, 2, i), y.step(12, 2, i));
         }
         Due.is("walks(12, 12) of eight columns", x.walks(12, 12), y.walks(12, 12));
+        everyStrip();
+    }
+
+    /** One row that is full of sums behind most steps: every length in every strip. */
+    private static void everyStrip() {
+        int[] numbers = {5, -5, 1, -1, 0, 3, -3, 2};
+        int[] gains = {9, 7, -4, 3, -2, 8, 8, 1};
+        Naive.State s = new Naive.State();
+        s.need = new int[] {-1};
+        for (int i = 0; i < 8; i++) {
+            s.columns.add(new int[] {numbers[i]});
+            s.gains.add(gains[i]);
+            s.held.add(0);
+        }
+        Naive y = new Naive();
+        y.load(s);
+        for (int t = 0; t <= 12; t++) {
+            RowWalks x = Told.of(Naive.textOf(s));
+            for (int w = 0; w <= 12; w++) {
+                String call = "(" + t + ", " + w;
+                Due.is("strip" + call + ", 1)", x.strip(t, w, 1), y.strip(t, w, 1));
+                List<Integer> walk = y.bestWalk(t, w);
+                for (int i = 0; i < t; i++) {
+                    Due.is("step" + call + ", " + i + ")", x.step(t, w, i), walk.isEmpty() ? NONE : walk.get(i + 1));
+                }
+            }
+        }
     }
 
     static void narrow() {
@@ -413,6 +442,8 @@ final class EdgesOfWalks {
                 }
             }
         }
+        Due.sentence(37, "A WALK by DRAWS of a seed (0 .. 9,999), of T STEPS (0 .. 12), what 0: by how much it STRAYS, 1: its GAIN, "
+            + "2: of all rows together how far its SUM is from NEED, without signs.");
         int[] numbers = {1, -3, 5, -5, 2, 0, 4, -1};
         int[] gains = {9, 8, 7, -6, 5, 4, 3, 99};
         StringBuilder text = new StringBuilder();
@@ -429,6 +460,10 @@ final class EdgesOfWalks {
                 }
             }
         }
+
+        RowWalks rows = Told.of("rows 3;column a 1 -1 5 gain 1;need 3 3 3;");
+        Due.is("drawn(9999, 12, 2) of three rows: 9, 15, 57", rows.drawn(9999, 12, 2), 81);
+        Due.is("drawn(9999, 12, 0): row 2, twelve times 57", rows.drawn(9999, 12, 0), 684);
 
         Due.sentence(37, "STRANGE if one can't be (without COLUMNS, too), or for another what.");
         Due.is("drawn(0, 0, 2)", x.drawn(0, 0, 2), 7);
