@@ -56,7 +56,12 @@ final class Due {
     }
 
     static void readDocument() throws IOException {
-        String document = Files.readString(Path.of("../shared/DOC.md"), StandardCharsets.UTF_8);
+        Path path = Path.of("../shared/DOC.md");
+        if (!Files.exists(path)) {
+            System.out.println("there is no " + path + ": the words of the sentences are not looked up");
+            return;
+        }
+        String document = Files.readString(path, StandardCharsets.UTF_8);
         for (String section : document.split("\n## ")) {
             String plain = section.replaceAll("\\s+", " ");
             if (plain.startsWith("Terms")) {
@@ -73,7 +78,7 @@ final class Due {
         words = (promise == TERMS ? "Terms" : "promise " + promise) + " '" + of + "'";
         sentences++;
         TESTED.add(promise);
-        if (!SECTIONS.getOrDefault(promise, "").contains(of)) {
+        if (!SECTIONS.isEmpty() && !SECTIONS.getOrDefault(promise, "").contains(of)) {
             say(words + ": this does not stand there");
         }
     }

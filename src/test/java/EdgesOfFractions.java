@@ -131,6 +131,12 @@ final class EdgesOfFractions {
         relaxedIs("rows 3;" + five + "column f 1 0 0 gain 1;column g 0 1 0 gain 1;column h 0 0 1 gain 1;need 1 1 1;", 3, 1, 224, 0);
         relaxedIs("rows 3;" + five + "column f 1 0 0 gain 1;column g 0 1 0 gain 1;column h 0 0 1 gain 1;need 0 0 20;", 20, 1, 128, 0);
 
+        Due.sentence(Due.TERMS, "RELAXED: of all PLANS of fractions (0 or more of each COLUMN) whose SUM is NEED the greatest GAIN");
+        // less than 0 of b would let a gain without end
+        relaxedIs("column a 2 gain 1;column b 1 gain 0;need 1;", 1, 2, 1, 0);
+        relaxedIs("column a 2 gain 1;column b 1 gain 1;need 1;", 1, 1, 2, 0);
+        relaxedIs("column a 1 gain -1;need 0;", 0, 1, 0, 0);
+
         Due.sentence(Due.TERMS, "ENDLESS, if there is none greatest.");
         relaxedIs("column a 0 gain 0;", 0, 1, 0, 0);
         endless("column a 0 gain 1;");

@@ -27,6 +27,10 @@ final class EdgesOfText {
     }
 
     static void newObject() {
+        Due.sentence(Due.TERMS, "The constants: `NONE = -1`: There is none. `STRANGE = -1000001`: A number that there is not.");
+        Due.is("NONE", RowWalks.NONE, -1);
+        Due.is("STRANGE", RowWalks.STRANGE, -1000001);
+
         Due.sentence(1, "An empty PROGRAM (one row, NEED 0, 8 steps).");
         RowWalks x = new RowWalks();
         Due.is("rows", x.about(0), 1);

@@ -394,6 +394,18 @@ final class EdgesOfWalks {
             Due.is("sorted() of " + steps + " steps behind others", x.sorted(), 5 * steps * steps / 2);
         }
 
+        Due.sentence(Due.TERMS, "it STRAYS by the greatest of T times SUM less k times NEED, without sign, of any row, behind any k");
+        for (int row = 0; row < 3; row++) {
+            Due.is("strays() in row " + row, Told.of(inRow(row, "-5 5", "0")).strays(), 40);
+            Due.is("sorted() in row " + row + ", below the line", Told.of(inRow(row, "-5 5", "0")).sorted(), 160);
+            Due.is("sorted() in row " + row + ", above the line", Told.of(inRow(row, "5 -5", "0")).sorted(), 160);
+            Due.is("behind the last step in row " + row, Told.of(inRow(row, "-5", "20")).drawn(0, 12, 0), 12 * 80);
+            Due.is("behind the last step in row " + row, Told.of(inRow(row, "5", "-20")).drawn(0, 12, 0), 12 * 80);
+        }
+        // 5 behind the first step, -1 behind each other
+        Due.is("behind the first step", Told.of("column a 5 gain 99;column b -1 gain 0;steps 6;").sorted(), 30);
+        Due.is("behind the last but one", Told.of("column a -1 gain 0;column b 5 gain 99;steps 6;").sorted(), 30);
+
         RowWalks none = Told.of("column a 1 gain 1;need 9;");
         Due.sentence(29, "NONE if there is none such.");
         Due.refusedBeside(0, 1, "order", NONE, RowWalks::order);
