@@ -1130,6 +1130,9 @@ public final class RowWalks {
         }
 
         private int spread(int k, int size) {
+            if (side1 < 1 || side2 < 1) {
+                return 0;
+            }
             int from = layer(k) * room;
             int base = k * MAX_ROWS;
             int next = 0;
@@ -1408,7 +1411,8 @@ public final class RowWalks {
         }
 
         private int takenAt(int part, int column) {
-            return strides[column] < 1 ? 0 : part / strides[column] % (often[column] + 1);
+            int shares = often[column] + 1;
+            return strides[column] < 1 || shares < 1 ? 0 : part / strides[column] % shares;
         }
 
         private int strayAtPart(int part) {
@@ -1806,7 +1810,7 @@ public final class RowWalks {
         private void beginLevel(int halvings, int w) {
             size = 0;
             Arrays.fill(isIn, 0);
-            int parts = 1 << halvings;
+            int parts = Math.max(1 << halvings, 1);
             for (int row = 0; row < MAX_ROWS; row++) {
                 int need = columns.needOf(row);
                 low[row] = -Math.floorDiv(-need, parts) - w;

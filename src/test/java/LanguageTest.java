@@ -32,6 +32,10 @@ public final class LanguageTest {
         "\\bArrays\\.(?!fill\\b|copyOf\\b|copyOfRange\\b)", "\\bimport (?!java\\.util\\.Arrays;)"
     };
 
+    /** What divides: a name with what stands behind it, a number, or something in brackets. */
+    private static final String OPERAND = "([A-Za-z_][\\w.]*(?:\\[[^\\]]*\\])?|\\d+|\\()";
+    private static final Pattern DIVISION = Pattern.compile("[/%]=?\\s*" + OPERAND + "|Math\\.floor\\w+\\([^,]*,\\s*" + OPERAND);
+
     private static int wrong = 0;
 
     private static void say(String what) {
@@ -112,6 +116,38 @@ public final class LanguageTest {
         return source.replaceAll("(?s)/\\*.*?\\*/", "").replaceAll("//[^\n]*", "").replaceAll("\"[^\"]*\"", "\"\"");
     }
 
+    /** Rule 7: a divisor that is neither a number nor a constant is compared with something before it divides. */
+    private static void lookAtDivisors(String code) {
+        Matcher method = Pattern.compile("(?ms)^( {4}(?: {4})?)[^ \\n][^\\n]*\\) \\{\\n.*?^\\1\\}\\n").matcher(code);
+        int divisions = 0;
+        while (method.find()) {
+            String body = method.group();
+            Matcher m = DIVISION.matcher(body);
+            while (m.find()) {
+                divisions++;
+                String divisor = m.group(1) != null ? m.group(1) : m.group(2);
+                if (!isLookedAt(divisor, body.substring(0, m.start()))) {
+                    say("divides by '" + divisor + "' unseen in " + body.substring(0, body.indexOf('{')).trim());
+                }
+            }
+        }
+        Matcher m = DIVISION.matcher(code);
+        while (m.find()) {
+            divisions--;
+        }
+        if (divisions != 0) {
+            say("divisions outside of the methods that were found: " + -divisions);
+        }
+    }
+
+    private static boolean isLookedAt(String divisor, String before) {
+        if (divisor.matches("[1-9]\\d*|[A-Z][A-Z_]*")) {
+            return true;
+        }
+        String name = "(?<![\\w.])" + Pattern.quote(divisor);
+        return Pattern.compile(name + "\\s*(?:[<>]=?|[!=]=)\\s|" + name + " = Math\\.max\\(").matcher(before).find();
+    }
+
     private static void lookAtSource(String source) {
         for (char c : source.toCharArray()) {
             if (c > 126 || c < 32 && c != '\n') {
@@ -125,6 +161,7 @@ public final class LanguageTest {
                 say("in the source: " + m.group());
             }
         }
+        lookAtDivisors(code);
         int start = 0;
         String[] lines = source.split("\n");
         for (int i = 0; i < lines.length; i++) {
