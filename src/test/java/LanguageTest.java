@@ -76,6 +76,9 @@ public final class LanguageTest {
         }
         for (Class<?> one : all) {
             lookAtMembers(one, names);
+            if (one != RowWalks.class && !Modifier.isStatic(one.getModifiers())) {
+                say("inside and not static: " + one);
+            }
         }
     }
 
